@@ -118,7 +118,7 @@ public final class TermOrders {
         checkOrder(order);
         int bits = 0;
         for (int r = 0; r < rules.count; r++) {
-            if (isOriented(order, r)) {
+            if (orders.isGreater(order, rules.lefts[r], rules.rights[r])) {
                 bits |= 1 << r;
             }
         }
@@ -209,13 +209,9 @@ public final class TermOrders {
         return termCount - 1;
     }
 
-    private boolean isOriented(int order, int r) {
-        return orders.isGreater(order, rules.lefts[r], rules.rights[r]);
-    }
-
     private boolean areAllOriented(int order) {
         for (int r = 0; r < rules.count; r++) {
-            if (!isOriented(order, r)) {
+            if (!orders.isGreater(order, rules.lefts[r], rules.rights[r])) {
                 return false;
             }
         }

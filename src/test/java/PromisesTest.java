@@ -294,6 +294,8 @@ public final class PromisesTest {
         due("8w the first other part", x.greater(WEIGHT, gfac, gcfa), true);
         due("8w the first other part is less", x.greater(WEIGHT, gcfa, gfac), false);
         due("8w the first other part is not", x.greater(WEIGHT, gab, gba), false);
+        due("8w the first other part weighs more, but has another variable",
+                x.greater(WEIGHT, gffab, x.term(2, fb, x.term(3, a, 0, 0), 0)), false);
         due("8w a variable and a constant", x.greater(WEIGHT, gac, gca), false);
         due("8w a constant and a variable", x.greater(WEIGHT, gca, gac), false);
         due("8w a variable by itself", x.greater(WEIGHT, a, a), false);
