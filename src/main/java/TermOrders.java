@@ -11,6 +11,8 @@ public final class TermOrders {
     private static final int MAX_SYMBOLS = 5;
     private static final int MAX_ARITY = 3;
     private static final int MAX_RANK = 4;
+    /** In so many ways five symbols can have the ranks 0 .. 4, each one. */
+    private static final int MAX_WAYS = 120;
     private static final int MAX_WEIGHT = 9;
     private static final int FIRST_WEIGHT = 1;
     private static final int VARIABLES = 4;
@@ -128,7 +130,11 @@ public final class TermOrders {
     public boolean search(int order) throws IllegalArgumentException {
         checkOrder(order);
         symbols.saveRanks();
-        boolean found = findRanks(order, 0);
+        symbols.takeFirstRanks();
+        boolean found = isOrientedAsDue(order);
+        for (int way = 1; way < MAX_WAYS && !found && symbols.takeNextRanks(); way++) {
+            found = isOrientedAsDue(order);
+        }
         if (!found) {
             symbols.restoreRanks();
         }
@@ -209,30 +215,17 @@ public final class TermOrders {
         return termCount - 1;
     }
 
-    private boolean areAllOriented(int order) {
+    /** Whether these ranks are such that a search may end with them. */
+    private boolean isOrientedAsDue(int order) {
+        if (order == WEIGHT_ORDER && !symbols.haveAdmissibleWeights()) {
+            return false;
+        }
         for (int r = 0; r < rules.count; r++) {
             if (!orders.isGreater(order, rules.lefts[r], rules.rights[r])) {
                 return false;
             }
         }
         return true;
-    }
-
-    /** Low ranks are tried first and symbol 0 is the outermost, so the first find is the one due. */
-    private boolean findRanks(int order, int s) {
-        if (s >= symbols.count) {
-            return (order == PATH_ORDER || symbols.haveAdmissibleWeights())
-                    && areAllOriented(order);
-        }
-        for (int rank = 0; rank < symbols.count; rank++) {
-            if (symbols.isRankFreeBelow(s, rank)) {
-                symbols.ranks[s] = rank;
-                if (findRanks(order, s + 1)) {
-                    return true;
-                }
-            }
-        }
-        return false;
     }
 
     /** The symbols that are there, with their arities, ranks and weights. */
@@ -260,6 +253,52 @@ public final class TermOrders {
             System.arraycopy(savedRanks, 0, ranks, 0, MAX_SYMBOLS);
         }
 
+        private void takeFirstRanks() {
+            for (int s = 0; s < count; s++) {
+                ranks[s] = s;
+            }
+        }
+
+        /**
+         * Goes on to the next way to give the ranks, by symbol 0's rank, then by symbol 1's, and so
+         * on, so that the first way that will do is the one due; false if there is no next one.
+         */
+        private boolean takeNextRanks() {
+            int s = lastBelowItsNext();
+            if (s == NONE) {
+                return false;
+            }
+            swapRanks(s, lastAbove(s));
+            for (int t = s + 1, u = count - 1; t < u; t++, u--) {
+                swapRanks(t, u);
+            }
+            return true;
+        }
+
+        private int lastBelowItsNext() {
+            for (int s = count - 2; s >= 0; s--) {
+                if (isAbove(s + 1, s)) {
+                    return s;
+                }
+            }
+            return NONE;
+        }
+
+        /** The symbols behind s stand from high to low, so the last above s is the lowest such. */
+        private int lastAbove(int s) {
+            int t = count - 1;
+            while (t > s && !isAbove(t, s)) {
+                t--;
+            }
+            return t;
+        }
+
+        private void swapRanks(int s, int t) {
+            int rank = ranks[s];
+            ranks[s] = ranks[t];
+            ranks[t] = rank;
+        }
+
         private boolean isAbove(int s, int t) {
             return ranks[s] > ranks[t];
         }
@@ -267,15 +306,6 @@ public final class TermOrders {
         private boolean isAboveAllOthers(int s) {
             for (int t = 0; t < count; t++) {
                 if (t != s && !isAbove(s, t)) {
-                    return false;
-                }
-            }
-            return true;
-        }
-
-        private boolean isRankFreeBelow(int s, int rank) {
-            for (int t = 0; t < s; t++) {
-                if (ranks[t] == rank) {
                     return false;
                 }
             }
@@ -583,7 +613,7 @@ public final class TermOrders {
         private int firstInnermostPlace(Term t) {
             int found = NONE;
             int end = t.size;
-            for (int p = 0; p < end; p++) {
+            for (int p = 0; p < t.size && p < end; p++) {
                 if (leastMatchingRule(t, p) != NONE) {
                     found = p;
                     end = t.ends[p];
