@@ -5,7 +5,7 @@ import java.util.Arrays;
  * search for a precedence under which all rules lead to less, and the rewriting itself.
  *
  * A term is held as the row of its places in the order in which it is written. The parts of a
- * place stand behind it in that row, so most questions are loops over the row and not recursions.
+ * place stand behind it in that row, so each question is a loop over rows, and none a recursion.
  */
 public final class TermOrders {
     private static final int MAX_SYMBOLS = 5;
